@@ -24,6 +24,9 @@ public final class GraveOrder {
     private static final int MOST_ITEMS = 40;
     private static final int LAST_COUNT = 8;
 
+    private static final int LEAST_INT = 1 << 31;
+    private static final long LEAST_LONG = 1L << 63;
+
     private static final int FOUND_NULL = 1;
     private static final int FOUND_INDEX = 2;
     private static final int FOUND_CAST = 3;
@@ -174,7 +177,7 @@ public final class GraveOrder {
         if (!within(what, 0, 2)) {
             return BAD;
         }
-        if (!someOrderCanBe()) {
+        if (!orders.settle()) {
             return NOT;
         }
         if (what == 0) {
@@ -187,7 +190,7 @@ public final class GraveOrder {
         if (place < 0) {
             return BAD;
         }
-        if (!someOrderCanBe()) {
+        if (!orders.settle()) {
             return NOT;
         }
         return place < yard.graves ? orders.row[place] : NONE;
@@ -197,7 +200,7 @@ public final class GraveOrder {
         if (!isPair(a, b)) {
             return BAD;
         }
-        if (!someOrderCanBe()) {
+        if (!orders.settle()) {
             return NOT;
         }
         return bit(orders.alwaysAhead(a, b));
@@ -207,7 +210,7 @@ public final class GraveOrder {
         if (!isGrave(grave)) {
             return BAD;
         }
-        if (!someOrderCanBe()) {
+        if (!orders.settle()) {
             return NOT;
         }
         return orders.placesInBest(grave);
@@ -226,7 +229,7 @@ public final class GraveOrder {
         if (!within(what, 0, 1)) {
             return longRefusal(BAD);
         }
-        if (!someOrderCanBe()) {
+        if (!orders.settle()) {
             return longRefusal(NOT);
         }
         orders.settleSpread();
@@ -236,21 +239,21 @@ public final class GraveOrder {
     // ---- kinds, phases, years
 
     public int leftOut() {
-        return someOrderCanBe() ? orders.fewestLeftOut() : NOT;
+        return orders.settle() ? orders.fewestLeftOut() : NOT;
     }
 
     public int mended(int kind) {
         if (!isKind(kind)) {
             return BAD;
         }
-        return someOrderCanBe() ? firstRow.mending(kind) : NOT;
+        return orders.settle() ? firstRow.mending(kind) : NOT;
     }
 
     public int phases(int n, int grave) {
         if (!within(n, 1, MOST_GRAVES) || (grave != NONE && !isGrave(grave))) {
             return BAD;
         }
-        if (n > yard.graves || !someOrderCanBe()) {
+        if (n > yard.graves || !orders.settle()) {
             return NOT;
         }
         int cuts = firstRow.bestCuts(n);
@@ -261,7 +264,7 @@ public final class GraveOrder {
         if (!within(of, 0, 1) || !within(end, 0, 1) || !(of == 0 ? isGrave(k) : isKind(k))) {
             return BAD;
         }
-        if (!someOrderCanBe()) {
+        if (!orders.settle()) {
             return NOT;
         }
         if (of == 0) {
@@ -276,7 +279,7 @@ public final class GraveOrder {
         if (!within(kinds, 0, ALL_KINDS) || !within(what, 0, 1)) {
             return BAD;
         }
-        if (!someOrderCanBe()) {
+        if (!orders.settle()) {
             return NOT;
         }
         int fewest = firstRow.fewestGapsWith(kinds);
@@ -333,12 +336,12 @@ public final class GraveOrder {
 
     public int get(int s, int form, int i) {
         if (!isSheet(s) || !within(form, 0, LAST_FORM)) {
-            return Integer.MIN_VALUE;
+            return LEAST_INT;
         }
         int found = sheets[s].findingAt(form, i);
         if (found != 0) {
             latestFinding = found;
-            return Integer.MIN_VALUE;
+            return LEAST_INT;
         }
         return sheets[s].items[i];
     }
@@ -367,7 +370,7 @@ public final class GraveOrder {
         if (sheets[s].lost) {
             return finding(FOUND_NULL);
         }
-        if (!someOrderCanBe()) {
+        if (!orders.settle()) {
             return NOT;
         }
         int written = Math.min(sheets[s].size, yard.graves);
@@ -439,7 +442,7 @@ public final class GraveOrder {
     }
 
     private static long longRefusal(int refusal) {
-        return Long.MIN_VALUE - refusal;
+        return LEAST_LONG - refusal;
     }
 
     /** The part of a fraction above (0) or below (1) its line. */
@@ -483,11 +486,6 @@ public final class GraveOrder {
     private int finding(int number) {
         latestFinding = number;
         return -10 - number;
-    }
-
-    private boolean someOrderCanBe() {
-        orders.settle();
-        return orders.ways[0] > 0;
     }
 
     private void findsChanged() {
@@ -718,7 +716,7 @@ public final class GraveOrder {
     private static final class Orders {
         private static final int CANNOT = -1;
         /** Above all gaps that there can be, and twice of it still an int. */
-        private static final int NO_WAY = 1000000;
+        static final int NO_WAY = 1000000;
         /** A kind has a gap at six of eight graves at most, ten kinds weigh three each. */
         private static final int MOST_GAPS = 180;
         /** Four graves have so many orders; eight are looked at in two halves. */
@@ -751,18 +749,19 @@ public final class GraveOrder {
             this.yard = yard;
         }
 
-        void settle() {
-            if (!stale) {
-                return;
+        /** Whether some order can be; all that is told of orders stands then. */
+        boolean settle() {
+            if (stale) {
+                fillSets();
+                fillSteps();
+                fillAhead();
+                fillBehind();
+                fillRow();
+                stale = false;
+                spreadStale = true;
+                leftOutStale = true;
             }
-            fillSets();
-            fillSteps();
-            fillAhead();
-            fillBehind();
-            fillRow();
-            stale = false;
-            spreadStale = true;
-            leftOutStale = true;
+            return ways[0] > 0;
         }
 
         private int allGraves() {
@@ -1139,8 +1138,9 @@ public final class GraveOrder {
         /** Cuts as bits, those ahead of earlier places higher: of as many cuts, the least row is the greatest. */
         int bestCuts(int parts) {
             int best = 0;
-            int fewest = Integer.MAX_VALUE;
-            for (int cuts = (1 << (yard.graves - 1)) - 1; cuts >= 0; cuts--) {
+            int fewest = Orders.NO_WAY;
+            int allCuts = (1 << Math.max(0, yard.graves - 1)) - 1;
+            for (int cuts = allCuts; cuts >= 0; cuts--) {
                 if (Integer.bitCount(cuts) == parts - 1 && straddles(cuts) < fewest) {
                     best = cuts;
                     fewest = straddles(cuts);
