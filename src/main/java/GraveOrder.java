@@ -123,7 +123,6 @@ public final class GraveOrder {
         }
         int told = tellLine(time);
         line.length = 0;
-        finds.lastTime = time;
         findsChanged();
         return told;
     }
@@ -136,7 +135,6 @@ public final class GraveOrder {
             return finding(FOUND_NULL);
         }
         int told = tellSheet(sheets[s], grave, time);
-        finds.lastTime = time;
         findsChanged();
         return told;
     }
@@ -480,7 +478,7 @@ public final class GraveOrder {
     }
 
     private boolean canTellAt(int time) {
-        return within(time, finds.lastTime, LAST_TIME);
+        return within(time, finds.timeBefore(), LAST_TIME);
     }
 
     private int finding(int number) {
@@ -578,8 +576,11 @@ public final class GraveOrder {
         final int[] kinds = new int[MOST_TELLINGS];
         final boolean[] there = new boolean[MOST_TELLINGS];
         int size = 0;
-        // Not the time of the last telling: a line for which there is no room is told at its time, too.
-        int lastTime = 0;
+
+        /** A call that tells nothing leaves no time behind, so it is that of the last telling. */
+        int timeBefore() {
+            return size > 0 ? times[size - 1] : 0;
+        }
 
         boolean keep(int time, int grave, int kind, boolean isThere) {
             if (size >= MOST_TELLINGS) {

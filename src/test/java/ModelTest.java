@@ -168,7 +168,7 @@ public final class ModelTest {
                 }
             }
             line = "";
-            lastTime = time;
+            lastTime = told > 0 ? time : lastTime;
             changed();
             return told;
         }
@@ -186,7 +186,7 @@ public final class ModelTest {
                 tellings.add(new int[] {time, g, told, sheets[s][told]});
                 told++;
             }
-            lastTime = time;
+            lastTime = told > 0 ? time : lastTime;
             changed();
             return told;
         }
