@@ -986,7 +986,7 @@ public final class ModelTest {
             text(randomLine());
             ask("fault");
             clock += below(3);
-            ask("tell", below(15) == 0 ? near(1000) : clock);
+            ask("tell", below(15) == 0 ? near(1000) : timeToTell());
             clock = Math.max(clock, Math.min(999, model.lastTime));
             if (below(3) == 0) {
                 ask("wipe");
@@ -1000,7 +1000,12 @@ public final class ModelTest {
                 ask("put", s, model.forms[s], i, below(12) == 0 ? near(300) : below(2));
             }
             clock += below(3);
-            ask("read", s, near(model.n()), clock);
+            ask("read", s, near(model.n()), timeToTell());
+        }
+
+        /** At times just beside the last telling, where what was told for nothing would show. */
+        int timeToTell() {
+            return below(3) == 0 ? model.lastTime - 1 + below(3) : clock;
         }
 
         void sheetCall() {

@@ -224,6 +224,37 @@ public final class PromiseTest {
         due(9, "count(5), a line of 40 bytes", y.count(5), 40);
         due(9, "tell(0) of 40 bytes", y.tell(0), 19);
         due(9, "has(0)", y.has(0), 0);
+        tellLeavesNoTimeIfNothingIsTold();
+    }
+
+    /** Once the sixty tellings are there, a good line tells nothing and leaves no time that binds. */
+    private static void tellLeavesNoTimeIfNothingIsTold() {
+        GraveOrder x = graves(1);
+        due(9, "tell(7) of an empty line", x.tell(7), NOT);
+        text(x, "0:0");
+        due(9, "tell(3) after a refused tell(7)", x.tell(3), 1);
+        for (int i = 0; i < 5; i++) {
+            text(x, "0:0,1,2,3,4,5,6,7,8,9");
+            x.tell(4);
+        }
+        text(x, "0:0,1,2,3,4,5,6,7");
+        due(9, "tell(5) of eight kinds", x.tell(5), 8);
+        text(x, "0:-0,-1");
+        due(9, "tell(20) with room for one", x.tell(20), 1);
+        text(x, "0:3");
+        due(9, "tell(500) without room", x.tell(500), 0);
+        text(x, "0:3");
+        due(9, "tell(19), before the one that told one", x.tell(19), BAD);
+        due(9, "tell(20) after one at 500 that told nothing", x.tell(20), 0);
+        due(9, "tell(19) of an empty line", x.tell(19), BAD);
+        due(9, "tell(20) of an empty line", x.tell(20), NOT);
+        x.sheet(0, 0, 1);
+        due(9, "read(0, 0, 19)", x.read(0, 0, 19), BAD);
+        due(9, "read(0, 0, 20)", x.read(0, 0, 20), 0);
+        x.asOf(19);
+        due(9, "has(0) as of 19", x.has(0), 1023);
+        x.asOf(20);
+        due(9, "has(0) as of 20", x.has(0), 1022);
     }
 
     private static void promise10() {
@@ -258,6 +289,29 @@ public final class PromiseTest {
         due(10, "read(0, 1, 10) with room for six", x.read(0, 1, 10), 6);
         due(10, "read(0, 1, 10) without room", x.read(0, 1, 10), 0);
         due(10, "count(1)", x.count(1), 60);
+        due(10, "read(0, 1, 700) without room", x.read(0, 1, 700), 0);
+        due(10, "read(0, 1, 10) after one at 700 that told nothing", x.read(0, 1, 10), 0);
+        due(10, "read(0, 1, 9), before the last telling", x.read(0, 1, 9), BAD);
+        readLeavesNoTimeIfNothingIsTold();
+    }
+
+    private static void readLeavesNoTimeIfNothingIsTold() {
+        GraveOrder x = graves(2);
+        x.sheet(1, 0, 0);
+        due(10, "read(1, 0, 3) of no items", x.read(1, 0, 3), 0);
+        due(10, "tell(0) of an empty line after it", x.tell(0), NOT);
+        order(x, 2, 2, 1);
+        due(10, "read(2, 0, 999), item 0 is neither", x.read(2, 0, 999), 0);
+        due(10, "read(3, 0, 999) of a lost sheet", x.read(3, 0, 999), NULL);
+        order(x, 0, 1, 1);
+        due(10, "read(0, 0, 2) after three that told nothing", x.read(0, 0, 2), 2);
+        due(10, "read(1, 0, 8) of no items", x.read(1, 0, 8), 0);
+        due(10, "read(1, 0, 1), before the last telling", x.read(1, 0, 1), BAD);
+        due(10, "read(1, 0, 2), as the last telling", x.read(1, 0, 2), 0);
+        text(x, "1:5");
+        due(10, "tell(1), before the last telling", x.tell(1), BAD);
+        due(10, "tell(2), as the last telling", x.tell(2), 1);
+        due(10, "has(1)", x.has(1), 32);
     }
 
     private static void promise11() {
