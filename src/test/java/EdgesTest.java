@@ -1124,6 +1124,14 @@ public final class EdgesTest extends Due {
             5, 2, 4, 4, 7, 0,
             2, 1, 0, 0, 2, 1, 1, 2,
             1, 0, 0, 0, 0, 0, 0, 0, 0, 0));
+        says("Promise 34", "spread(0, 1), mean() 0, 1, leftOut()");
+        due("digest() of three graves, some orders of which have a gap", graves(3, "0:0;2:0").digest(),
+            digestOf(3, 2, 1, 2, 0, 0, 999, 0, 0,
+                1, 0, 7, 0, 99, 2,
+                0, 2, 5, 0, 99, 0,
+                1, 1, 7, 0, 99, 0,
+                0, 4, 1, 4, 1, 3, 0, 0,
+                0, 0, 0, 0, 0, 0, 0, 0, 0, 0));
         says("Promise 34", "as longs that wrap");
         GraveOrder y = graves(8);
         long h = digestOf(8, 0, 0, 0, 0, 0, 999, 0, 0);

@@ -56,6 +56,14 @@ public final class OrderTermsTest extends Due {
         due("write(0) of one item", x.write(0), 0);
     }
 
+    /** Three graves that can stand in one order alone: 2, 1, 0. */
+    private static GraveOrder turnedRow(String... lines) {
+        GraveOrder x = graves(3, lines);
+        x.over(0, 1);
+        x.over(1, 2);
+        return x;
+    }
+
     /** Gaps of graves that stand as they are told, and how they change if one is robbed. */
     private static int gapsOf(int n, int robbed, String... lines) {
         GraveOrder x = row(n, lines);
@@ -73,6 +81,13 @@ public final class OrderTermsTest extends Due {
         due("gaps of 1 1 1", gapsOf(3, 0, "0:5;1:5;2:5"), 0);
         due("gaps of 1 0 0 1, one robbed", gapsOf(4, 4, "0:5;3:5"), 1);
         due("gaps of 1 0 0 1, all robbed", gapsOf(4, 15, "0:5;3:5"), 0);
+        GraveOrder told = graves(3, "0:5;2:5");
+        items(told, 0, 0, 2, 1, 0);
+        due("gaps(0, 0) of 1 0 1", told.gaps(0, 0), 1);
+        told.robbed(0, 1);
+        due("gaps(0, 0) of 1 0 1, an end robbed", told.gaps(0, 0), 1);
+        told.robbed(1, 1);
+        due("gaps(0, 0) of 1 0 1, the gap robbed", told.gaps(0, 0), 0);
         says("2", "between the first and the last that have it");
         due("gaps of none", gapsOf(3, 0), 0);
         due("gaps of 0 1 0", gapsOf(3, 0, "1:5"), 0);
@@ -89,6 +104,7 @@ public final class OrderTermsTest extends Due {
             x.weight(9, w[1]);
             due("best(0) of weights " + w[0] + ", " + w[1], x.best(0), w[2]);
         }
+        due("best(0), grave 0 stands last", turnedRow("0:0;2:0").best(0), 1);
         GraveOrder most = row(8, "0:" + ALL_KINDS, "7:" + ALL_KINDS);
         due("best(0), all kinds have all gaps", most.best(0), 60);
         for (int kind = 0; kind < 10; kind++) {
@@ -175,6 +191,29 @@ public final class OrderTermsTest extends Due {
         due("sure(0, 1), 1 0 2 can be but is not best", z.sure(0, 1), 1);
         due("sure(1, 2)", z.sure(1, 2), 1);
         due("sure(2, 0)", z.sure(2, 0), 0);
+        GraveOrder gapped = graves(4, "0:0,1;1:1,2;2:2,3;3:3,0");
+        int[][] pairs = {{0, 1}, {1, 0}, {0, 2}, {2, 0}, {1, 3}, {3, 1}};
+        for (int[] p : pairs) {
+            due("sure(" + p[0] + ", " + p[1] + ") of a ring of kinds", gapped.sure(p[0], p[1]), 0);
+        }
+        gapped.over(3, 0);
+        due("best(0), none without gaps", gapped.best(0), 2);
+        due("best(1), half of the sixteen", gapped.best(1), 8);
+        due("sure(0, 3)", gapped.sure(0, 3), 1);
+        due("sure(3, 0)", gapped.sure(3, 0), 0);
+        due("sure(2, 1)", gapped.sure(2, 1), 0);
+        GraveOrder back = turnedRow("0:0;2:0");
+        due("sure(2, 0), the one order has a gap", back.sure(2, 0), 1);
+        due("sure(0, 2), the one order has a gap", back.sure(0, 2), 0);
+        due("sure(1, 0), the one order has a gap", back.sure(1, 0), 1);
+        GraveOrder early = graves(5, "2:0;4:0");
+        early.over(2, 0);
+        early.over(2, 1);
+        early.over(3, 2);
+        early.over(4, 3);
+        due("sure(0, 1), both ahead of a gap", early.sure(0, 1), 0);
+        due("sure(1, 0), both ahead of a gap", early.sure(1, 0), 0);
+        due("sure(1, 2), ahead of a gap", early.sure(1, 2), 1);
         says("2", "PLACES of a GRAVE: those at which it stands in some BEST (bits)");
         due("places(0) alone", graves(1).places(0), 1);
         due("places(0), one order", row(8).places(0), 1);
@@ -182,6 +221,10 @@ public final class OrderTermsTest extends Due {
         due("places(3), any order", graves(8).places(3), 255);
         due("places(1), between two", graves(3, "0:0;1:0,1;2:1").places(1), 2);
         due("places(0), at both ends", graves(3, "0:0;1:0,1;2:1").places(0), 5);
+        int[] places = {4, 2, 1};
+        for (int g = 0; g < 3; g++) {
+            due("places(" + g + "), the one order has a gap", turnedRow("0:0;2:0").places(g), places[g]);
+        }
     }
 
     private static void noneCanBe() {
@@ -292,6 +335,7 @@ public final class OrderTermsTest extends Due {
         due("leftOut(), no gaps", row(3, "0:0;1:0,1;2:1").leftOut(), 0);
         due("leftOut(), an order that can be", graves(3, "0:0;2:0").leftOut(), 0);
         due("leftOut(), the one that can be", row(3, "0:0;2:0").leftOut(), 1);
+        due("leftOut(), grave 0 stands last", turnedRow("0:0;2:0").leftOut(), 1);
         GraveOrder x = row(3, "0:0;2:0");
         x.robbed(1, 1);
         due("leftOut(), the gap robbed", x.leftOut(), 0);
@@ -406,6 +450,14 @@ public final class OrderTermsTest extends Due {
         due("years(1, 1, 0), one grave's", x.years(1, 1, 0), 20);
         due("years(1, 1, 1), one grave's", x.years(1, 1, 1), 60);
         due("years(1, 9, 0), none has it", x.years(1, 9, 0), NOT);
+        int[] ends = {0, 99};
+        for (int year : ends) {
+            GraveOrder end = new GraveOrder();
+            end.grave(year, year);
+            told(end, "0:4", 0);
+            due("years(1, 4, 0) in the year " + year, end.years(1, 4, 0), year);
+            due("years(1, 4, 1) in the year " + year, end.years(1, 4, 1), year);
+        }
     }
 
     // ---- 4: new ones, alike ones
@@ -424,6 +476,11 @@ public final class OrderTermsTest extends Due {
         due("fresh(2, 0), behind all alone", row(3, "0:0;1:0;2:0,1").fresh(2, 0), 8);
         due("fresh(0, 0) of eight", graves(8).fresh(0, 0), 511);
         due("fresh(1, 0) of eight, behind all alone", row(8, "7:0").fresh(1, 0), 384);
+        for (int place = 1; place < 8; place++) {
+            GraveOrder x8 = row(8, (place - 1) + ":0;" + place + ":1");
+            due("fresh(3, 0), between " + (place - 1) + " and " + place, x8.fresh(3, 0), 1 << place);
+            due("fresh(3, 1), between " + (place - 1) + " and " + place, x8.fresh(3, 1), 0);
+        }
         says("4", "GAPS of all then");
         GraveOrder y = row(3, "0:0;2:0");
         due("fresh(0, 1), the gap that is there stays", y.fresh(0, 1), 1);

@@ -4,6 +4,7 @@ import java.util.List;
 /**
  * A refused call changes nothing but, where it is a FINDING, count() 8; nor does a call that only asks. Twins tell:
  * two objects are built alike, one of them is asked the call, and then all that can be seen of both is held together.
+ * Nor does it matter whether an object was asked before a change.
  */
 public final class RefusalTest extends Due {
     private interface Call {
@@ -25,6 +26,9 @@ public final class RefusalTest extends Due {
         }
 
         abstract void build(GraveOrder x);
+
+        /** The refusals that only this state has. */
+        abstract void refusals();
     }
 
     /** Sheet 0 is bytes, an order of three; 1 shorts; 2 ints, of no items; 3 is lost. The latest finding is STORE. */
@@ -43,6 +47,11 @@ public final class RefusalTest extends Due {
         @Override
         void build(GraveOrder x) {
         }
+
+        @Override
+        void refusals() {
+            refusedWithoutGraves();
+        }
     }
 
     private static final class WithoutGraves extends State {
@@ -56,6 +65,11 @@ public final class RefusalTest extends Due {
             type(x, "0:1");
             x.weight(3, 0);
             x.asOf(17);
+        }
+
+        @Override
+        void refusals() {
+            refusedWithoutGraves();
         }
     }
 
@@ -80,6 +94,11 @@ public final class RefusalTest extends Due {
             sheets(x);
             type(x, "0:1,;");
         }
+
+        @Override
+        void refusals() {
+            refusedInSome();
+        }
     }
 
     private static final class NoneCanBe extends State {
@@ -97,6 +116,11 @@ public final class RefusalTest extends Due {
             x.robbed(1, 1);
             sheets(x);
             type(x, "2:9");
+        }
+
+        @Override
+        void refusals() {
+            refusedWhereNoneCanBe();
         }
     }
 
@@ -125,9 +149,89 @@ public final class RefusalTest extends Due {
             sheets(x);
             type(x, "0:1,1,1,1,1,1,1,1,1,1,1,1,1,1,1,1,1,1,-2");
         }
+
+        @Override
+        void refusals() {
+            refusedWithoutRoom();
+            toldNothing();
+        }
     }
 
-    private static final State[] STATES = {new New(), new WithoutGraves(), new Some(), new NoneCanBe(), new Full()};
+    private static final class FullOfGraves extends State {
+        FullOfGraves() {
+            super("eight graves, and room for all else", 8, 9, 4);
+        }
+
+        @Override
+        void build(GraveOrder x) {
+            for (int g = 0; g < 8; g++) {
+                x.grave(50 - g, 50 + g);
+            }
+            x.over(7, 2);
+            told(x, "0:0,1;7:1;3:0", 9);
+            sheets(x);
+            type(x, "7:7,");
+        }
+
+        @Override
+        void refusals() {
+            refused("grave(0, 99)", x -> x.grave(0, 99), FULL);
+            refused("tell(9) of a line not ended", x -> x.tell(9), NOT);
+        }
+    }
+
+    private static final class FullOfOvers extends State {
+        FullOfOvers() {
+            super("sixteen overs, and room for all else", 3, 2, 4);
+        }
+
+        @Override
+        void build(GraveOrder x) {
+            for (int g = 0; g < 3; g++) {
+                x.grave(0, 80 + g);
+            }
+            for (int i = 0; i < 16; i++) {
+                x.over(2, i % 2);
+            }
+            told(x, "0:0,1;2:1,0", 2);
+            sheets(x);
+            type(x, "0:");
+        }
+
+        @Override
+        void refusals() {
+            refused("over(0, 1)", x -> x.over(0, 1), FULL);
+            refused("over(2, 0)", x -> x.over(2, 0), FULL);
+            refused("tell(2) of a line not ended", x -> x.tell(2), NOT);
+        }
+    }
+
+    private static final class FullOfBytes extends State {
+        FullOfBytes() {
+            super("forty bytes, and room for all else", 2, 0, 4);
+        }
+
+        @Override
+        void build(GraveOrder x) {
+            x.grave(0, 0);
+            x.grave(0, 1);
+            x.robbed(1, 1);
+            x.over(1, 0);
+            sheets(x);
+            for (int i = 0; i < 20; i++) {
+                type(x, i == 0 ? "1:" : i < 19 ? "3," : "-3");
+            }
+        }
+
+        @Override
+        void refusals() {
+            refused("type('3')", x -> x.type('3'), FULL);
+            refused("type(0)", x -> x.type(0), FULL);
+        }
+    }
+
+    private static final State[] STATES = {new New(), new WithoutGraves(), new Some(), new NoneCanBe(), new Full(),
+        new FullOfGraves(), new FullOfOvers(), new FullOfBytes()};
 
     // ---- what can be seen of an object; each group has an object of its own, so that none is called too often
 
@@ -215,13 +319,14 @@ public final class RefusalTest extends Due {
     }
 
     private static void seeSheets(GraveOrder x, List<Long> seen) {
-        // The latest finding may differ; from here on it is the same for both.
-        x.sheet(0, 0, -1);
         for (int s = 0; s < 4; s++) {
             for (int form = 0; form < 3; form++) {
                 for (int i = 0; i < 6; i++) {
-                    seen.add((long) x.get(s, form, i));
-                    seen.add((long) x.count(8));
+                    int item = x.get(s, form, i);
+                    seen.add((long) item);
+                    if (item == LEAST) {
+                        seen.add((long) x.count(8));
+                    }
                 }
             }
         }
@@ -238,6 +343,11 @@ public final class RefusalTest extends Due {
             seen.add((long) x.read(s, 0, state.lastTime));
             seen.add((long) x.write(s));
             seen.add((long) x.count(1));
+        }
+        for (int s = 0; s < 4; s++) {
+            for (int form = 0; form < 3; form++) {
+                seen.add((long) x.put(s, form, 0, 200));
+            }
         }
         seen.add((long) x.copy(0, 0, 0, 1, 2));
         seen.add((long) x.copy(1, 0, 1, 1, 4));
@@ -358,6 +468,7 @@ public final class RefusalTest extends Due {
         refused("phases(9, NONE)", x -> x.phases(9, NONE), BAD);
         refused("phases(1, -2)", x -> x.phases(1, -2), BAD);
         refused("phases(1, 8)", x -> x.phases(1, 8), BAD);
+        refused("phases(8, 9)", x -> x.phases(8, 9), BAD);
         refused("years(2, 0, 0)", x -> x.years(2, 0, 0), BAD);
         refused("years(1, 10, 0)", x -> x.years(1, 10, 0), BAD);
         refused("years(1, 0, 2)", x -> x.years(1, 0, 2), BAD);
@@ -557,24 +668,83 @@ public final class RefusalTest extends Due {
         due("count(0)", x.count(0), state.graves);
         due("count(8)", x.count(8), state.finding);
         due("all 60 tellings", x.count(1) == 60 ? 1 : 0, full ? 1 : 0);
-        due("all 16 overs", x.count(4) == 16 ? 1 : 0, full ? 1 : 0);
-        due("all 40 bytes", x.count(5) == 40 ? 1 : 0, full ? 1 : 0);
+        due("all 16 overs", x.count(4) == 16 ? 1 : 0, full || state instanceof FullOfOvers ? 1 : 0);
+        due("all 40 bytes", x.count(5) == 40 ? 1 : 0, full || state instanceof FullOfBytes ? 1 : 0);
         due("no order can be", x.best(0) == NOT ? 1 : 0, none ? 1 : 0);
-        due("a line without a fault", x.fault() == NONE ? 1 : 0, full || none ? 1 : 0);
+        boolean good = full || none || state instanceof FullOfBytes;
+        due("a line without a fault", x.fault() == NONE ? 1 : 0, good ? 1 : 0);
     }
 
-    private static void inStatesOfTheirOwn() {
-        says("4, in the state '" + state.name + "'", "They change nothing: NOT, FULL");
-        if (state instanceof Some) {
-            refusedInSome();
-        } else if (state instanceof NoneCanBe) {
-            refusedWhereNoneCanBe();
-        } else if (state instanceof Full) {
-            refusedWithoutRoom();
-            toldNothing();
-        } else {
-            refusedWithoutGraves();
+
+    // ---- asked again after each change
+
+    /** Each changes what the answers of orders stand on; the years make 1 stand ahead of 0. */
+    private static final Call[] CHANGES = {
+        x -> x.grave(20, 90), x -> x.grave(0, 25), x -> told(x, "0:0,1;1:2", 1), x -> x.grave(10, 50),
+        x -> told(x, "2:0,1,2", 2), x -> x.weight(0, 3), x -> x.over(0, 1), x -> x.robbed(2, 1),
+        x -> x.grave(5, 95), x -> told(x, "3:2;1:1", 3), x -> x.robbed(2, 0), x -> x.over(2, 3),
+        x -> x.asOf(2), x -> x.sheet(0, 0, 4), x -> x.read(0, 0, 3), x -> x.asOf(3), x -> x.put(0, 0, 1, 1),
+        x -> x.read(0, 2, 4), x -> x.asOf(4), x -> x.weight(1, 0), x -> x.over(3, 0), x -> x.weight(2, 2),
+        x -> told(x, "0:2,1;3:0", 999), x -> x.asOf(999), x -> x.weight(1, 1), x -> x.over(1, 2), x -> x.robbed(1, 1)};
+
+    private static List<Long> answers(GraveOrder x) {
+        List<Long> seen = new ArrayList<>();
+        seen.add(x.digest());
+        seen.add((long) x.spread(1, 0));
+        seen.add((long) x.spread(6, 1));
+        seen.add((long) x.sure(1, 0));
+        seen.add((long) x.fresh(3, 0));
+        seen.add((long) x.phases(2, 1));
+        seen.add((long) x.years(1, 0, 1));
+        return seen;
+    }
+
+    private static void askedAfterEachChange() {
+        says("2", "BEST, FIRST and all that follows are those of what is told by then");
+        GraveOrder often = new GraveOrder();
+        due("answers before all changes", answers(often).equals(answers(new GraveOrder())) ? 1 : 0, 1);
+        for (int n = 1; n <= CHANGES.length; n++) {
+            GraveOrder once = new GraveOrder();
+            for (int i = 0; i < n; i++) {
+                long due = CHANGES[i].on(once);
+                if (i == n - 1) {
+                    due("the answer of change " + n, CHANGES[i].on(often), due);
+                }
+            }
+            due("answers after change " + n, answers(often).equals(answers(once)) ? 1 : 0, 1);
         }
+        robbedBeforeAndAfter();
+        manyGapsAndThenNone();
+        leftOutBeforeAndAfter();
+    }
+
+    private static void robbedBeforeAndAfter() {
+        GraveOrder x = row(3, "0:0;2:0");
+        due("best(0)", x.best(0), 1);
+        x.robbed(1, 1);
+        due("best(0), the gap robbed", x.best(0), 0);
+        x.robbed(1, 0);
+        due("best(0), robbed no more", x.best(0), 1);
+    }
+
+    private static void manyGapsAndThenNone() {
+        GraveOrder x = row(8, "0:0,1,2,3,4,5,6,7,8,9", "7:0,1,2,3,4,5,6,7,8,9");
+        for (int kind = 0; kind < 10; kind++) {
+            x.weight(kind, 3);
+        }
+        due("spread(180, 0)", x.spread(180, 0), 1);
+        x.weight(0, 2);
+        due("spread(180, 0), one of less weight", x.spread(180, 0), 0);
+        due("spread(174, 0), one of less weight", x.spread(174, 0), 1);
+    }
+
+    /** At first grave 0 can be the first one, and then no longer. */
+    private static void leftOutBeforeAndAfter() {
+        GraveOrder x = graves(3, "0:5;1:5");
+        due("leftOut()", x.leftOut(), 0);
+        x.over(0, 2);
+        x.over(2, 1);
+        due("leftOut(), 1 2 0 alone can be", x.leftOut(), 32);
     }
 
     public static void main(String[] args) {
@@ -583,8 +753,10 @@ public final class RefusalTest extends Due {
             twin = untouched(state);
             stateIsAsMeant();
             inEachState();
-            inStatesOfTheirOwn();
+            says("4, in the state '" + state.name + "'", "They change nothing: NOT, FULL");
+            state.refusals();
         }
+        askedAfterEachChange();
         end();
     }
 }

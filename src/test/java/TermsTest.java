@@ -306,6 +306,10 @@ public final class TermsTest extends Due {
         due("read(0, 0, 998)", x.read(0, 0, 998), BAD);
         due("tell(0)", x.tell(0), BAD);
         due("tell(999), as the one ahead", x.tell(999), 1);
+        GraveOrder one = graves(1);
+        due("tell(6), the first of all", told(one, "0:1", 6), 1);
+        due("tell(5), less than the first", told(one, "0:2", 5), BAD);
+        due("tell(6), as the first", one.tell(6), 1);
         GraveOrder y = graves(1, "0:1");
         due("tell(1)", told(y, "0:2", 1), 1);
         due("tell(0), one less", told(y, "0:3", 0), BAD);
