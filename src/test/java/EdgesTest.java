@@ -58,6 +58,12 @@ public final class EdgesTest extends Due {
         due("robbed(0, 0)", x.robbed(0, 0), 1);
         due("robbed(0, 0)", x.robbed(0, 0), 0);
         due("count(7)", x.count(7), 128);
+        for (int g = 1; g < 8; g++) {
+            x.robbed(g, 1);
+            due("robbed(" + g + ", 0)", x.robbed(g, 0), 1);
+            due("robbed(" + g + ", 0)", x.robbed(g, 0), 0);
+        }
+        x.robbed(7, 1);
         says("Promise 3", "BAD");
         for (int v : beyond(0, 1)) {
             due("robbed(0, " + v + ")", x.robbed(0, v), BAD);

@@ -965,6 +965,11 @@ public final class ModelTest {
         void dig(int most) {
             boolean wide = below(2) == 0;
             for (int g = 0; g < most; g++) {
+                if (below(10) == 0) {
+                    int end = 98 * below(2);
+                    ask("grave", end, end + below(2));
+                    continue;
+                }
                 int from = wide ? below(20) : below(60);
                 ask("grave", from, wide ? 60 + below(40) : from + below(40));
             }

@@ -128,6 +128,13 @@ public final class OrderTermsTest extends Due {
         due("best(1)", x.best(1), 3);
         x.over(1, 2);
         due("best(1), 1 over 2 over 0", x.best(1), 1);
+        GraveOrder two = graves(3);
+        two.over(0, 1);
+        two.over(0, 2);
+        due("best(1), 0 over both others", two.best(1), 2);
+        due("1 0 2, 0 over both others", canBe(two, 1, 0, 2), 0);
+        due("2 0 1, 0 over both others", canBe(two, 2, 0, 1), 0);
+        due("2 1 0, 0 over both others", canBe(two, 2, 1, 0), 1);
         x.over(0, 1);
         due("best(1), three in a ring", x.best(1), NOT);
         due("0 2 1, three in a ring", canBe(x, 0, 2, 1), 0);
@@ -154,6 +161,21 @@ public final class OrderTermsTest extends Due {
             like.grave(99, 99);
         }
         due("best(1), all in the year 99", like.best(1), 40320);
+        int[] ends = {0, 98};
+        for (int year : ends) {
+            GraveOrder end = new GraveOrder();
+            end.grave(year, year);
+            due("0 alone, in the year " + year, canBe(end, 0), 1);
+            due("best(2), one of the year " + year, end.best(2), 1);
+            end.grave(year, year);
+            due("1 0, both in the year " + year, canBe(end, 1, 0), 1);
+            due("best(2), two of the year " + year, end.best(2), 1);
+            end.grave(year + 1, year + 1);
+            due("0 1 2, the last one a year later than " + year, canBe(end, 0, 1, 2), 1);
+            due("0 2 1, the one of a year later between them", canBe(end, 0, 2, 1), 0);
+            due("best(1), two and one of a year later", end.best(1), 2);
+            due("best(2), two and one of a year later", end.best(2), 0);
+        }
         GraveOrder stairs = new GraveOrder();
         for (int g = 7; g >= 0; g--) {
             stairs.grave(g, g);
@@ -182,6 +204,17 @@ public final class OrderTermsTest extends Due {
         for (int place = 0; place < 8; place++) {
             due("first(" + place + ") of eight like graves", like.first(place), place);
         }
+        GraveOrder light = turnedRow("0:0;2:0;1:1");
+        for (int kind = 0; kind < 10; kind++) {
+            light.weight(kind, 0);
+        }
+        for (int place = 0; place < 3; place++) {
+            due("first(" + place + "), no kind weighs", light.first(place), 2 - place);
+            due("places(" + place + "), no kind weighs", light.places(place), 4 >> place);
+        }
+        due("best(1), no kind weighs", light.best(1), 1);
+        due("sure(2, 0), no kind weighs", light.sure(2, 0), 1);
+        due("sure(1, 0), no kind weighs", light.sure(1, 0), 1);
         says("2", "SURELY AHEAD is a GRAVE of another one, if it is so in all BEST");
         GraveOrder z = graves(3, "0:0;1:0,1;2:1");
         due("sure(0, 2), 2 1 0 is best, too", z.sure(0, 2), 0);
@@ -274,6 +307,15 @@ public final class OrderTermsTest extends Due {
             due("spread(" + gaps + ", 0)", x.spread(gaps, 0), just[gaps]);
         }
         due("spread(999, 0)", x.spread(999, 0), 0);
+        for (int gaps = 0; gaps <= 6; gaps++) {
+            int orders = 2 * (7 - gaps) * 720;
+            due("spread(" + gaps + ", 0), two of eight have a kind", graves(8, "2:0;5:0").spread(gaps, 0), orders);
+        }
+        GraveOrder ring = graves(4, "0:0,1;1:1,2;2:2,3;3:3,0");
+        int[] ofRing = {0, 0, 16, 0, 8, 0};
+        for (int gaps = 0; gaps < 6; gaps++) {
+            due("spread(" + gaps + ", 0) of a ring of kinds", ring.spread(gaps, 0), ofRing[gaps]);
+        }
         says("2", "FEWER than a told number, or as many");
         for (int gaps = 0; gaps < 4; gaps++) {
             due("spread(" + gaps + ", 1)", x.spread(gaps, 1), upTo[gaps]);
