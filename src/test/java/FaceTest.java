@@ -1,10 +1,13 @@
+import java.lang.reflect.Array;
 import java.lang.reflect.Constructor;
 import java.lang.reflect.Field;
 import java.lang.reflect.Method;
 import java.lang.reflect.Modifier;
 import java.nio.file.Files;
 import java.nio.file.Path;
+import java.util.ArrayList;
 import java.util.Arrays;
+import java.util.List;
 import java.util.Set;
 import java.util.TreeSet;
 import java.util.regex.Matcher;
@@ -23,7 +26,15 @@ public final class FaceTest {
     private static final String[] RULED_OUT = {
         "\\bthrow\\b", "\\bthrows\\b", "\\btry\\b", "\\bcatch\\b", "\\bsynchronized\\b", "\\bassert\\b",
         "\\bimport\\b", "\\bpackage\\b", "\\bprotected\\b", "->", "::", "\\bThread\\b", "\\bRandom\\b",
-        "System\\.(?!arraycopy)", "Exact\\b", "\\bObject\\b", "\\bstatic\\s*\\{", "while\\s*\\(\\s*true"};
+        "System\\.(?!arraycopy)", "Exact\\b", "\\bObject\\b", "\\bstatic\\s*\\{", "while\\s*\\(\\s*true",
+        "\\bclone\\b", "\\bString\\b", "\""};
+    /** An object's own rows are made by its fields and by its constructor, and by nothing else. */
+    private static final Pattern MADE_ONCE = Pattern.compile(
+        "(private )?final [\\w\\[\\]]+ \\w+ = new .*;|sheets\\[s\\] = new Sheet\\(\\);");
+    private static final Pattern METHOD = Pattern.compile("( +)(?!.*\\bclass\\b)[\\w\\[\\] ]+\\(.*\\) \\{");
+    private static final int MOST_LINES = 60;
+    /** Some 600,000 objects and 7.3 million elements are the room of all: it holds over 1,500 objects of these. */
+    private static final int MOST_MADE = 40, MOST_ELEMENTS = 4600;
     private static final Set<String> LIBRARY = new TreeSet<>(Arrays.asList(
         "Integer.bitCount", "Integer.numberOfTrailingZeros", "Math.max", "Math.min", "System.arraycopy"));
     private static int wrong = 0;
@@ -59,6 +70,13 @@ public final class FaceTest {
         for (Method m : GraveOrder.class.getDeclaredMethods()) {
             if (Modifier.isPrivate(m.getModifiers()) && names.contains(m.getName())) {
                 fail("a private method with a public one's name: " + m);
+            }
+        }
+        for (Class<?> c : GraveOrder.class.getDeclaredClasses()) {
+            for (Method m : c.getDeclaredMethods()) {
+                if (names.contains(m.getName())) {
+                    fail("a method inside with a public one's name: " + m);
+                }
             }
         }
     }
@@ -127,10 +145,91 @@ public final class FaceTest {
                 fail("the source has " + library.group());
             }
         }
+        made(code);
+        lengths(text);
         for (int i = 0; i < text.length(); i++) {
             if (text.charAt(i) > 126) {
                 fail("the source has the sign " + (int) text.charAt(i));
             }
+        }
+    }
+
+    private static void made(String code) {
+        int found = 0;
+        for (String line : code.split("\n")) {
+            if (Pattern.compile("\\bnew\\b").matcher(line).find()) {
+                found++;
+                if (!MADE_ONCE.matcher(line.trim()).matches()) {
+                    fail("made by a call: " + line.trim());
+                }
+            }
+        }
+        if (found == 0) {
+            fail("nothing is made: the source is not read as it was meant");
+        }
+    }
+
+    private static void lengths(String text) {
+        String[] lines = text.split("\n");
+        int found = 0;
+        for (int i = 0; i < lines.length; i++) {
+            Matcher m = METHOD.matcher(lines[i]);
+            if (!m.matches() || m.group(1).length() > 8) {
+                continue;
+            }
+            found++;
+            int end = i;
+            while (end < lines.length && !lines[end].equals(m.group(1) + "}")) {
+                end++;
+            }
+            if (end - i >= MOST_LINES) {
+                fail("longer than " + MOST_LINES + " lines: " + lines[i].trim());
+            }
+        }
+        if (found < FACE.length) {
+            fail("the source has " + found + " methods: it is not read as it was meant");
+        }
+    }
+
+    /** Objects and arrays in the list, all that is held by those ahead of them behind them. */
+    private static int elementsOf(List<Object> all) throws Exception {
+        int elements = 0;
+        for (int i = 0; i < all.size(); i++) {
+            Object o = all.get(i);
+            if (o.getClass().isArray()) {
+                elements += Array.getLength(o);
+                for (int k = 0; o instanceof Object[] && k < Array.getLength(o); k++) {
+                    join(all, Array.get(o, k));
+                }
+                continue;
+            }
+            for (Field f : o.getClass().getDeclaredFields()) {
+                if (!Modifier.isStatic(f.getModifiers())) {
+                    elements++;
+                    f.setAccessible(true);
+                    join(all, f.getType().isPrimitive() ? null : f.get(o));
+                }
+            }
+        }
+        return elements;
+    }
+
+    private static void join(List<Object> all, Object o) {
+        boolean met = o == null;
+        for (int i = 0; i < all.size() && !met; i++) {
+            met = all.get(i) == o;
+        }
+        if (!met) {
+            all.add(o);
+        }
+    }
+
+    private static void room() throws Exception {
+        List<Object> all = new ArrayList<>();
+        all.add(new GraveOrder());
+        int elements = elementsOf(all);
+        if (all.size() > MOST_MADE || elements > MOST_ELEMENTS) {
+            fail("an object has " + all.size() + " objects and arrays, " + elements + " fields and elements");
         }
     }
 
@@ -139,6 +238,7 @@ public final class FaceTest {
         fields();
         classes();
         source();
+        room();
         System.out.println(wrong == 0 ? "the face is as due" : wrong + " faults of the face");
         if (wrong != 0) {
             System.exit(1);
